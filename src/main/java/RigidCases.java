@@ -518,6 +518,7 @@ public final class RigidCases {
       int equated = equatedBy(maker, inside);
       boolean isOpenName = types.kindOf(inside) == KIND_NAME;
       if (!isOpenName && types.kindOf(inside) != types.kindOf(equated)) {
+        // The case is closed, so it doesn't matter whether its part is there.
         return true;
       }
       if (part == NONE || equated == NONE) {
@@ -930,7 +931,7 @@ public final class RigidCases {
         case CASES:
           return runCases(term);
         default:
-          return runParts(term, wantedBy(op));
+          return op == BOTH || isMaker(op) ? runParts(term, wantedBy(op)) : STUCK;
       }
     }
 

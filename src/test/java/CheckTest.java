@@ -43,6 +43,10 @@ public final class CheckTest {
     newNames();
     formsByEquations();
     typesBeyondTheLimits();
+    highResults();
+    highResultsOfExps();
+    manyVariables();
+    manyChecks();
     namesInMain();
     due.end();
   }
@@ -438,6 +442,62 @@ public final class CheckTest {
     Text.main(x, "n1 lit n2 lit duo n3 lit duo call second", 0);
     due.is("an evaluator among 24 types", x.check(), 0);
     due.is("a 25th still has no room", x.type(1, 1, 0), -2);
+  }
+
+  /** Results of height 4, NAME 0 being as deep as it can. */
+  private static void highResults() {
+    RigidCases x = withTypes();
+    int left = x.type(0, x.type(0, N0_N1, INT), INT);
+    int right = x.type(0, INT, x.type(0, INT, x.type(0, INT, N0)));
+    Text.function(x, "v0 call", left);
+    Text.main(x, "t1 bit call first first first", BOOL);
+    due.is("first of all", x.check(), 0);
+    Text.main(x, "t1 bit call first first second", N1);
+    due.is("another name stays", x.check(), 0);
+    Text.main(x, "t1 bit call first first first", N0);
+    due.is("not NAME 0", x.check(), 2);
+    Text.function(x, "v0 call", right);
+    Text.main(x, "t1 bit call second second second", BOOL);
+    due.is("second of all", x.check(), 0);
+    Text.main(x, "t1 bit call second second second", INT);
+    due.is("not INT", x.check(), 2);
+  }
+
+  private static void highResultsOfExps() {
+    RigidCases x = withTypes();
+    int exps = x.type(1, x.type(1, EXP_N0, 0), 0);
+    Text.function(x, "v0 call", exps);
+    Text.main(x, "n1 lit call", x.type(1, EXP_EXP_INT, 0));
+    due.is("exps of INT", x.check(), 0);
+    Text.main(x, "n1 lit call", exps);
+    due.is("exps of INT, not of NAME 0", x.check(), 2);
+    Text.function(x, "v0 v0 call v0 call v0 call v0 call v0 call v0 call cases63", exps);
+    due.is("exps of NAME 0, whatever it is told to be", x.check(), 2);
+    String told = "v0 %s t1 bit call n1 lit call v2 call v0 call v0 call cases63";
+    Text.function(x, String.format(told, "n1 lit call"), exps);
+    due.is("exps of what it is told to be", x.check(), 2);
+    Text.function(x, String.format(told, "t1 bit call"), exps);
+    due.is("exps of something else", x.check(), 1);
+  }
+
+  private static void manyVariables() {
+    // In five WHEN cases of an EXP EXP INT, three variables each: an EXP BOOL and two of these.
+    String inner = "n1 lit call v1 v4 v7 v10 v%d v1 cases40 v1 cases40 v1 cases40 v1 cases40";
+    for (int k = 0; k < 12; k++) {
+      String text = String.format(inner, k) + " v0 left cases40";
+      given(EXP_EXP_INT, text, EXP_EXP_INT, k % 3 != 0);
+    }
+  }
+
+  /** As many checks as an object is used for, of a body that builds many types. */
+  private static void manyChecks() {
+    RigidCases x = withTypes();
+    Text.function(x, EVALUATOR, N0);
+    String main = "n1 lit t1 bit duo left v0 v0 call v1 call add n1 v0 left call cases45";
+    Text.main(x, main, INT);
+    for (int k = 0; k < 400; k++) {
+      due.is("check again", x.check(), 0);
+    }
   }
 
   private static void namesInMain() {

@@ -26,6 +26,8 @@ public final class EvaluateTest {
     wrongKindsAreSeenAtOnce();
     sixHundredSteps();
     fourBodies();
+    manyVariables();
+    again();
     withoutTypes();
     laterCallsChangeNothing();
     due.end();
@@ -202,6 +204,9 @@ public final class EvaluateTest {
         run("v0 v1 v0 both cases1", "n4 lit call", VALUE, 8).number(1),
         4);
     run("v0 first", "v0 call", STUCK, 2);
+    // What a body saw is gone when it is over.
+    run("v0", "n4 call v0 both", STUCK, 5);
+    run("v0", "n4 lit v0 call v1 both cases1", STUCK, 8);
   }
 
   private static void wrongKindsAreSeenAtOnce() {
@@ -251,6 +256,42 @@ public final class EvaluateTest {
     run("v0", "n0 call call call call call", VALUE, 11);
     run("v0 v0 v1 call call cases33", "n0 lit left left left call", VALUE, 33);
     run("v0 call", "n0 call", SPENT, 10);
+  }
+
+  private static void manyVariables() {
+    // Each CASES puts three more behind the others: 1 to 3, 4 to 6, 7 to 9, 10 to 12.
+    String fourfold = "v0 v0 v0 v0 v%d cases8 cases8 cases8 cases8";
+    String argument = "t1 bit n7 lit n8 lit when call";
+    int[] codes = {1014, 1012, 1011, 1011};
+    for (int k = 0; k < 12; k++) {
+      int at = k == 0 ? 0 : 1 + (k - 1) % 3;
+      RigidCases x = run(String.format(fourfold, k), argument, VALUE, 8 + 9);
+      due.is("variable " + k, x.value(0), codes[at]);
+      due.is("number of variable " + k, x.number(1), at == 2 ? 7 : at == 3 ? 8 : 0);
+    }
+    // Four bodies, each with three CASES around the call of the next.
+    String body = "v0 v1 v0 v0 v3 call v8 both cases8 cases8 cases9";
+    String main =
+        "t1 bit n1 lit t1 bit n2 lit t1 bit n3 lit n4 lit when when when call";
+    RigidCases x = run(body, main, VALUE, 18 + 3 * 10 + 3);
+    int[] row = {1003, 1003, 1003, 1000, 1011, 1000, 1011, 1000, 1011, 1000};
+    int[] numbers = {0, 0, 0, 4, 0, 3, 0, 2, 0, 1};
+    for (int k = 0; k < row.length; k++) {
+      due.is("four bodies: value(" + k + ")", x.value(k), row[k]);
+      due.is("four bodies: number(" + k + ")", x.number(k), numbers[k]);
+    }
+  }
+
+  private static void again() {
+    RigidCases x = new RigidCases();
+    Text.function(x, "v0 v0 both v0 v0 both both", 0);
+    Text.main(x, "n3 call call call call", 0);
+    for (int k = 0; k < 400; k++) {
+      due.is("evaluate again", x.evaluate(), VALUE);
+      due.is("steps again", x.steps(), 33);
+    }
+    due.is("value again", x.value(0), 1003);
+    due.is("number again", x.number(8), 3);
   }
 
   private static void withoutTypes() {

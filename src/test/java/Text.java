@@ -1,11 +1,11 @@
 /**
- * Terms as texts, parts before wholes: "n5 lit n7 lit sum call". A word is an operation's name, with
- * its number behind it where it takes one: n NUMBER, t TRUTH, v VARIABLE, as AS, cases CASES.
+ * Terms as texts, parts before wholes: "n5 lit n7 lit sum call". A word is an operation's name,
+ * with its number behind it where it takes one: n NUMBER, t TRUTH, v VARIABLE, as AS, cases CASES.
  */
 final class Text {
   private static final String[] WORDS = {
-    "n", "t", "v", "add", "less", "if", "both", "first", "second", "call", "as", "lit", "bit", "sum",
-    "when", "duo", "left", "cases"
+    "n", "t", "v", "add", "less", "if", "both", "first", "second", "call", "as", "lit", "bit",
+    "sum", "when", "duo", "left", "cases"
   };
 
   private Text() {}
