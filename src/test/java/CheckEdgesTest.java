@@ -45,6 +45,7 @@ public final class CheckEdgesTest {
     impossibleForKnownTypes();
     impossibleByWhatWasTold();
     impossibleByWhatWasToldOfAPart();
+    noTypeIsAPartOfItself();
     aClosedPartIsNotLookedAt();
     whatHasTheForm();
     whatHasTheFormByEquations();
@@ -305,6 +306,31 @@ public final class CheckEdgesTest {
     String inner = casesBut("v0", "n0", told, part);
     String text = cases("n1 lit call", null, null, null, "n0", inner, "n0");
     given(EXP_N1_N2, text, INT, right);
+  }
+
+  /**
+   * "or a type is equal to one that it is a part of": an equation is with INT, BOOL or a pair of
+   * new names, so that none comes to that. Of the parts of what was told, all cases are open.
+   */
+  private static void noTypeIsAPartOfItself() {
+    for (int missing = LIT; missing <= LEFT; missing++) {
+      // NAME 0 is a pair of new names, and one of these a pair of others.
+      for (int part = 1; part <= 2; part++) {
+        String inner = casesBut("v" + part, "n0", missing, "n0");
+        body(casesBut("v0", "n0", DUO, inner), INT, true);
+        inner = casesBut("v" + part, "n0", missing, null);
+        body(casesBut("v0", "n0", DUO, inner), INT, false);
+      }
+      // The pair of EXP INT and a new name is a pair of new names.
+      boolean isOpen = missing == WHEN || missing == LEFT;
+      String[] parts = {null, null, null, "n0", "n0", "n0"};
+      parts[DUO] = casesBut("v1", "n0", missing, null);
+      given(EXP_EXP_INT, "n1 lit call n0 " + cases("v0", parts) + " cases40", INT, !isOpen);
+      parts[DUO] = casesBut("v2", "n0", missing, null);
+      given(EXP_EXP_INT, "n1 lit call n0 " + cases("v0", parts) + " cases40", INT, false);
+      parts[DUO] = casesBut("v2", "n0", missing, "n0");
+      given(EXP_EXP_INT, "n1 lit call n0 " + cases("v0", parts) + " cases40", INT, true);
+    }
   }
 
   /** "its part, if it is there, isn't looked at. Otherwise it has to be there, and is checked". */

@@ -12,6 +12,7 @@ public final class TypeEdgesTest {
     aNewObjectHasTwoTypes();
     aNewObjectHasAnEmptyStack();
     aNewObjectHasItsProgram();
+    aNewObjectIsItsOwn();
     kindsAreZeroToTwo();
     namesAreZeroToTwo();
     partsArePresentTypes();
@@ -96,6 +97,29 @@ public final class TypeEdgesTest {
     RigidCases y = new RigidCases();
     Text.function(y, "n1", 0);
     due.is("new: the main type is INT, whatever the body", y.check(), 0);
+  }
+
+  /** What is done with one object is nothing to another, made before or after. */
+  private static void aNewObjectIsItsOwn() {
+    RigidCases before = new RigidCases();
+    RigidCases x = withNumbers(24);
+    Text.function(x, "n1 lit", 0);
+    Text.main(x, "t1 n1 both", 1);
+    x.evaluate();
+    x.check();
+    Text.make(x, "n1 n2 n3");
+    for (RigidCases other : new RigidCases[] {before, new RigidCases()}) {
+      due.is("another's height", other.height(), 0);
+      due.is("another's steps", other.steps(), 0);
+      due.is("another's row", other.value(0), -1);
+      due.is("another's check", other.check(), 0);
+      due.is("another's first type", other.type(EXP, 1, 0), 2);
+      due.is("another's evaluate", other.evaluate(), 0);
+      due.is("another's value", other.value(0), 1000);
+    }
+    due.is("its types are as they were", x.type(EXP, 0, 0), -2);
+    due.is("its stack is as it was", x.height(), 3);
+    due.is("its value is as it was", x.value(0), 1003);
   }
 
   /** Promise 2: "kind 0 PAIR of a and b, 1 EXP of a, 2 NAME a", "BAD when kind is not so". */
