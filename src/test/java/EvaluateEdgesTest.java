@@ -334,7 +334,8 @@ public final class EvaluateEdgesTest {
   /** Only bodies that are being evaluated count: not those that are over. */
   private static void bodiesThatAreOver() {
     run("v0", "n0 call call call call call", VALUE, 11);
-    run("v0", "n0 call n0 call both n0 call n0 call both both n0 call n0 call both both", VALUE, 23);
+    String six = "n0 call n0 call both n0 call n0 call both both n0 call n0 call both both";
+    run("v0", six, VALUE, 23);
     // Four deep, twice one after the other, and once more in the part of a call.
     run(COUNT, "n1 call n1 call add", VALUE, 63);
     run(COUNT, "n1 call call", VALUE, 31 + 1 + 5);
