@@ -46,7 +46,7 @@ final class Text {
     throw new IllegalArgumentException(word);
   }
 
-  private static int argument(String word) {
+  static int argument(String word) {
     String digits = word.replaceAll("^[a-z]+", "");
     return digits.isEmpty() ? 0 : Integer.parseInt(digits);
   }
